@@ -165,7 +165,9 @@ public final class SaidTest {
         x.group(0, 1);
         Due.words(x, "ab");
         due.is("one word", x.chance(0, 0, 0), -2);
-        Due.words(x, "cab", "ac", "b");
+        Due.words(x, "cab");
+        due.is(x, "two words", x.chance(0, 0, 0), 0, 1, 1);
+        Due.words(x, "ac", "b");
         due.is(x, "one pair of six", x.chance(0, 0, 0), 0, 1, 6);
         Due.words(x, "dab");
         due.is(x, "three of ten", x.chance(0, 0, 0), 0, 3, 10);

@@ -54,6 +54,10 @@ public final class SoughtAndLandTest {
         due.is("no year", x.look(601, 0), -1);
         due.is("no year", x.look(-1, 0), -1);
         due.is("no place", x.look(0, 6), -1);
+        x.mark(4, 1, 2, 0, 0, 0);
+        due.is(x, "a sign that holds by both", x.look(120, 0), 1, 1, 2);
+        x.mark(0, 1, 2, 120, 0, 0);
+        due.is(x, "one history is left", x.look(120, 0), 0, 0, 1);
         x.mark(0, 0, 1, 0, 0, 0);
         due.is(x, "none fits, the ROW stays", x.look(120, 0), -2, 0, 1);
     }
