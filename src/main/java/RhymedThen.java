@@ -172,16 +172,12 @@ public final class RhymedThen {
             return NONE;
         }
         row.clear();
-        int course = Tongue.SPELT;
-        long form = tongue.formOn(course, word);
+        long form = tongue.formOn(Tongue.SPELT, word);
         for (int turn = 0; turn <= tongue.lawCount; turn++) {
-            if (turn > 0) {
-                course = past.courseAfterTurn(course, history, turn - 1);
-            }
-            int opens = past.opensAt(history, turn, place);
-            long now = tongue.formOn(course, word);
-            if (opens <= past.closesAt(history, turn, place) && now != form) {
-                row.add(opens);
+            int year = past.newsYear(history, turn, place);
+            long now = tongue.formOn(past.courseAt(history, year, place), word);
+            if (now != form) {
+                row.add(year);
                 form = now;
             }
         }
@@ -206,21 +202,15 @@ public final class RhymedThen {
         row.clear();
         int spans = 0;
         int since = NONE;
-        int course = Tongue.SPELT;
         for (int turn = 0; turn <= tongue.lawCount; turn++) {
-            if (turn > 0) {
-                course = past.courseAfterTurn(course, history, turn - 1);
-            }
-            int opens = past.opensAt(history, turn, place);
-            if (opens > past.closesAt(history, turn, place)) {
-                continue;
-            }
+            int year = past.newsYear(history, turn, place);
+            int course = past.courseAt(history, year, place);
             boolean same = tongue.formOn(course, one) == tongue.formOn(course, other);
             if (same && since == NONE) {
-                since = opens;
+                since = year;
                 spans++;
             } else if (!same && since != NONE) {
-                tellSpan(since, opens - 1);
+                tellSpan(since, year - 1);
                 since = NONE;
             }
         }
@@ -847,14 +837,10 @@ public final class RhymedThen {
     }
 
     private int firstSaidSo(int word, long form, int history, int place) {
-        int course = Tongue.SPELT;
         for (int turn = 0; turn <= tongue.lawCount; turn++) {
-            if (turn > 0) {
-                course = past.courseAfterTurn(course, history, turn - 1);
-            }
-            int opens = past.opensAt(history, turn, place);
-            if (opens <= past.closesAt(history, turn, place) && tongue.formOn(course, word) == form) {
-                return opens;
+            int year = past.newsYear(history, turn, place);
+            if (tongue.formOn(past.courseAt(history, year, place), word) == form) {
+                return year;
             }
         }
         return NONE;
@@ -1401,7 +1387,7 @@ public final class RhymedThen {
         int courseUpTo(int history, int law) {
             int course = Tongue.SPELT;
             for (int turn = 0; turn < laws && lawAt(history, turn) != law; turn++) {
-                course = courseAfterTurn(course, history, turn);
+                course = tongue.courseAfter(course, lawAt(history, turn));
             }
             return course;
         }
@@ -1416,18 +1402,9 @@ public final class RhymedThen {
             return course;
         }
 
-        int courseAfterTurn(int course, int history, int turn) {
-            return tongue.courseAfter(course, lawAt(history, turn));
-        }
-
-        /** The first year in which so many laws have come; it is behind closesAt, if another one comes then, too. */
-        int opensAt(int history, int turn, int place) {
+        /** The years in which words may come to be said otherwise: 0, then those in which laws come, ascending. */
+        int newsYear(int history, int turn, int place) {
             return turn == 0 ? 0 : yearIn(years[history], turn - 1) + lags[place];
-        }
-
-        /** The last year in which no more than so many laws have come. */
-        int closesAt(int history, int turn, int place) {
-            return turn == laws ? LAST_YEAR : yearIn(years[history], turn) + lags[place] - 1;
         }
 
         /** Whether all laws but some have their first years. */
