@@ -1220,7 +1220,10 @@ public final class RhymedThen {
 
         /** The forms on courses depend on laws, classes and words: they are made anew. */
         private void forgetCourses() {
-            Arrays.fill(following, 0, walked * MOST_LAWS, 0);
+            int used = walked * MOST_LAWS;
+            for (int i = 0; i < used; i++) {
+                following[i] = 0;
+            }
             walked = 1;
         }
 
