@@ -1705,11 +1705,10 @@ public final class RhymedThen {
         }
 
         void invite(int word) {
-            if (Integer.bitCount(invited) < SEATS) {
-                invited |= 1 << word;
-            }
+            invited |= 1 << word;
         }
 
+        /** Seats go to the words of least numbers, whichever signs bring them. */
         void seat() {
             for (int w = 0; w < MOST_WORDS; w++) {
                 if ((invited >> w & 1) != 0 && cast < SEATS) {

@@ -775,10 +775,11 @@ final class Plain {
         TreeSet<Integer> cast = new TreeSet<>();
         for (int s = 0; s < signs.size(); s++) {
             for (int i = 1; i <= 2 && on.get(s) && signs.get(s)[0] < 2; i++) {
-                if (cast.size() < 7) {
-                    cast.add(signs.get(s)[i]);
-                }
+                cast.add(signs.get(s)[i]);
             }
+        }
+        while (cast.size() > 7) {
+            cast.pollLast();
         }
         List<Integer> seats = new ArrayList<>(cast);
         int rows = (int) Math.pow(3, seats.size());

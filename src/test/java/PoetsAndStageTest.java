@@ -8,6 +8,7 @@ public final class PoetsAndStageTest {
         ahead();
         stage();
         stageIsFull();
+        stageLeavesSignsOut();
         due.finish();
     }
 
@@ -126,10 +127,44 @@ public final class PoetsAndStageTest {
         x.mark(1, 3, 2, 0, 0, 0);
         x.mark(0, 1, 0, 0, 0, 0);
         x.mark(0, 3, 9, 0, 0, 0);
-        due.is(x, "seven words as the signs bring them", x.stage(0, 0, 0, 0, 0), 4,
-            3, 0, 4, 0, 5, 0, 6, 0, 7, 0, 8, 0, 9, 0);
+        due.is(x, "the seven words of least numbers, whichever signs bring them", x.stage(0, 0, 0, 0, 0), 3,
+            0, 0, 1, 0, 2, 0, 3, 0, 4, 0, 5, 0, 6, 0);
         x.turn(0, false);
-        due.is(x, "without the first sign", x.stage(0, 0, 0, 0, 0), 3,
+        due.is(x, "a sign that stays out is off", x.stage(0, 0, 0, 0, 0), 3,
+            0, 0, 1, 0, 2, 0, 3, 0, 4, 0, 5, 0, 6, 0);
+        x.turn(4, false);
+        due.is(x, "words 0 and 1 make room for 7 and 9", x.stage(0, 0, 0, 0, 0), 4,
+            2, 0, 3, 0, 4, 0, 5, 0, 6, 0, 7, 0, 9, 0);
+        x.turn(0, true);
+        due.is(x, "8 comes ahead of 9", x.stage(0, 0, 0, 0, 0), 3,
+            2, 0, 3, 0, 4, 0, 5, 0, 6, 0, 7, 0, 8, 0);
+        x.mark(4, 0, 1, 0, 0, 0);
+        x.mark(2, 0, 0, 0, 0, 1);
+        due.is(x, "other kinds bring no words", x.stage(0, 0, 0, 0, 0), 3,
+            2, 0, 3, 0, 4, 0, 5, 0, 6, 0, 7, 0, 8, 0);
+        x.mark(1, 1, 9, 0, 0, 0);
+        due.is(x, "a later sign's word takes a seat, and its sign stays out", x.stage(0, 0, 0, 0, 0), 3,
             1, 0, 2, 0, 3, 0, 4, 0, 5, 0, 6, 0, 7, 0);
+    }
+
+    /** Word 7 alone would be so in another year: as it is out, the first row is told. */
+    private static void stageLeavesSignsOut() {
+        RhymedThen x = new RhymedThen();
+        x.group(0, 1);
+        for (int i = 0; i < 7; i++) {
+            Due.word(x, "a");
+        }
+        Due.word(x, "ba");
+        Due.law(x, "b>/_", 100, 100, 1);
+        x.mark(1, 7, 6, 0, 0, 0);
+        x.mark(1, 5, 7, 0, 0, 0);
+        for (int w = 0; w < 5; w++) {
+            x.mark(1, w, w + 1, 0, 0, 0);
+        }
+        due.is(x, "both signs of word 7 stay out", x.stage(0, 0, 0, 100, 200), 5,
+            0, 0, 1, 0, 2, 0, 3, 0, 4, 0, 5, 0, 6, 0);
+        x.turn(2, false);
+        due.is(x, "without word 0 it is there", x.stage(0, 0, 0, 100, 200), 6,
+            1, 0, 2, 0, 3, 0, 4, 0, 5, 0, 6, 0, 7, 1);
     }
 }
