@@ -10,7 +10,11 @@ final class Due {
 
     /** Tells which promise the next answers are about. */
     void promise(int number) {
-        about = "promise " + number;
+        about("promise " + number);
+    }
+
+    void about(String what) {
+        about = what;
     }
 
     void is(String call, long got, long want) {

@@ -130,6 +130,15 @@ public final class HistoriesTest {
         due.is("a>e by 0", x.shows(0, 0), 0);
         x.turn(1, false);
         due.is("one is off", x.shows(1, 0), 4);
+        // by 1 b is still b in 30, with the last law and without it
+        RhymedThen y = new RhymedThen();
+        Due.word(y, "a");
+        Due.law(y, "a>b", 10, 10, 1);
+        Due.law(y, "b>c", 20, 40, 20);
+        Due.law(y, "e>f", 50, 50, 1);
+        y.mark(3, 0, 0, 30, 0, 1);
+        due.is("a>b by 1", y.shows(0, 1), 1);
+        due.is("e>f by 1", y.shows(2, 1), 0);
         due.is("no law", x.shows(2, 0), -1);
         due.is("no law", x.shows(-1, 0), -1);
         due.is("no history", x.shows(0, 2), -1);

@@ -60,6 +60,8 @@ public final class OddsTest {
         RhymedThen x = three();
         due.is(x, "two of three", x.then(0, 25, 0), 1, 2, 3, 1);
         due.is(x, "all", x.then(0, 0, 0), 1, 1, 1, 0);
+        x.lag(3, 10);
+        due.is(x, "late", x.then(0, 25, 3), 1, 2, 3, 0);
         x.mark(3, 0, 0, 25, 0, 0);
         x.by(0, 0, 9);
         due.is(x, "one weighs more", x.then(0, 25, 0), 1, 9, 11, 0);
@@ -85,6 +87,8 @@ public final class OddsTest {
         RhymedThen x = Due.beds();
         due.is(x, "by 0", x.right(0, 200, 0), 4, 15);
         due.is(x, "by 1", x.right(1, 200, 0), 3, 14);
+        x.lag(3, 100);
+        due.is(x, "by 1, late", x.right(1, 200, 3), 3, 13);
         x.mark(0, 0, 1, 120, 0, 0);
         x.by(0, 0, 6);
         due.is(x, "by 0", x.right(0, 200, 0), 3, 14);

@@ -108,11 +108,30 @@ public final class PoetsAndStageTest {
         x.turn(2, false);
         x.turn(4, false);
         due.is(x, "without tails a pun is one", x.stage(1, 0, 0, 0, 200), 1, 0, 2, 1, 2);
+        stageByHistory();
         due.is("no history", x.stage(2, 0, 0, 0, 0), -1);
         due.is("no place", x.stage(0, 6, 0, 0, 0), -1);
         due.is("no year", x.stage(0, 0, 601, 0, 0), -1);
         due.is("no year", x.stage(0, 0, 0, -1, 0), -1);
         due.is("no year", x.stage(0, 0, 0, 0, 601), -1);
+    }
+
+    /** One law, in 10 or 20, 5 years later at place 4: each of the three years goes by the history and the place. */
+    private static void stageByHistory() {
+        RhymedThen x = new RhymedThen();
+        Due.words(x, "a", "b");
+        Due.law(x, "a>b", 10, 20, 10);
+        x.lag(4, 5);
+        x.mark(1, 0, 1, 0, 0, 0);
+        for (int i = 0; i < 3; i++) {
+            int[] years = new int[3];
+            years[i] = 10;
+            due.is(x, "by 0", x.stage(0, 0, years[0], years[1], years[2]), 1, 0, i, 1, 0);
+            due.is(x, "by 1", x.stage(1, 0, years[0], years[1], years[2]), 0, 0, 0, 1, 0);
+            due.is(x, "by 0, not yet there", x.stage(0, 4, years[0], years[1], years[2]), 0, 0, 0, 1, 0);
+            years[i] = 25;
+            due.is(x, "by 1 there", x.stage(1, 4, years[0], years[1], years[2]), 1, 0, i, 1, 0);
+        }
     }
 
     private static void stageIsFull() {

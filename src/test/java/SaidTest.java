@@ -92,6 +92,9 @@ public final class SaidTest {
         due.is("bad, bed", x.alike(0, 1, 1, 100, 0), 2);
         due.is("bad, cad", x.alike(0, 4, 1, 99, 0), 1);
         due.is("bad, cad apart", x.alike(0, 4, 1, 100, 0), 0);
+        x.lag(2, 20);
+        due.is("bad, bed, not yet there", x.alike(0, 1, 1, 119, 2), 0);
+        due.is("bad, bed there", x.alike(0, 1, 1, 120, 2), 2);
         due.is("without tails", x.alike(5, 6, 0, 0, 0), 0);
         due.is("one word", x.alike(5, 5, 0, 0, 0), 2);
         due.is("no word", x.alike(7, 0, 0, 0, 0), -1);
@@ -135,6 +138,20 @@ public final class SaidTest {
         z.lag(1, 200);
         due.is(z, "a, b", z.one(0, 1, 0, 0), 1, 399, 600);
         due.is(z, "a, b, late", z.one(0, 1, 0, 1), 1, 599, 600);
+        RhymedThen either = either();
+        due.is(either, "a, b by 0", either.one(0, 1, 0, 0), 1, 10, 600);
+        due.is(either, "a, b by 1", either.one(0, 1, 1, 0), 1, 20, 600);
+        due.is(either, "a, b by 1, late", either.one(0, 1, 1, 4), 1, 25, 600);
+    }
+
+    /** One law, in 10 or 20, 5 years later at place 4: a becomes b, which rhymes with cb. */
+    private static RhymedThen either() {
+        RhymedThen x = new RhymedThen();
+        x.group(0, Due.bits("ab"));
+        Due.words(x, "a", "b", "cb");
+        Due.law(x, "a>b", 10, 20, 10);
+        x.lag(4, 5);
+        return x;
     }
 
     private static void rhymes() {
@@ -145,6 +162,12 @@ public final class SaidTest {
         due.is(x, "cad in 100", x.rhymes(4, 1, 100, 0), 1, 5);
         due.is(x, "bed in 100", x.rhymes(1, 1, 100, 0), 1, 0);
         due.is(x, "without a tail", x.rhymes(6, 1, 100, 0), 0);
+        RhymedThen either = either();
+        due.is(either, "a by 0", either.rhymes(0, 0, 10, 0), 2, 1, 2);
+        due.is(either, "a by 1", either.rhymes(0, 1, 10, 0), 0);
+        due.is(either, "a by 0, not yet there", either.rhymes(0, 0, 14, 4), 0);
+        due.is(either, "b by 0, not yet there", either.rhymes(1, 0, 14, 4), 1, 2);
+        due.is(either, "a by 0 there", either.rhymes(0, 0, 15, 4), 2, 1, 2);
         due.is("no word", x.rhymes(7, 0, 0, 0), -1);
         due.is("no history", x.rhymes(0, 2, 0, 0), -1);
         due.is("no year", x.rhymes(0, 0, -1, 0), -1);
@@ -175,6 +198,11 @@ public final class SaidTest {
         due.is(x, "b ends four", x.chance(0, 0, 0), 0, 3, 5);
         x.group(0, 0);
         due.is(x, "none", x.chance(0, 600, 5), 0, 0, 1);
+        RhymedThen either = either();
+        due.is(either, "by 0", either.chance(0, 10, 0), 0, 1, 1);
+        due.is(either, "by 1", either.chance(1, 10, 0), 0, 1, 3);
+        due.is(either, "by 0, not yet there", either.chance(0, 14, 4), 0, 1, 3);
+        due.is(either, "by 0 there", either.chance(0, 15, 4), 0, 1, 1);
         due.is("no history", x.chance(1, 0, 0), -1);
         due.is("no year", x.chance(0, 601, 0), -1);
         due.is("no place", x.chance(0, 0, 6), -1);
@@ -188,6 +216,8 @@ public final class SaidTest {
         due.is("a>e in 100", x.works(0, 1, 100, 0), 1);
         due.is("a>e late", x.works(0, 1, 199, 2), 0);
         due.is("a>e late", x.works(0, 1, 200, 2), 1);
+        due.is("a>b by 0 in 10", either().works(0, 0, 10, 0), 1);
+        due.is("a>b by 1 in 10", either().works(0, 1, 10, 0), 0);
         due.is("e> behind it", x.works(1, 1, 600, 0), 3);
         due.is("e> ahead of it", x.works(1, 0, 600, 0), 2);
         due.is("no law", x.works(2, 0, 0, 0), -1);

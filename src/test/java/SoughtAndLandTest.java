@@ -77,6 +77,9 @@ public final class SoughtAndLandTest {
         due.is("no place", x.settled(0, 6), -1);
         x.mark(0, 0, 1, 0, 0, 0);
         due.is("none fits", x.settled(0, 0), -2);
+        RhymedThen first = Due.beds();
+        first.mark(2, 1, 0, 120, 0, 0);
+        due.is("by the first history alone", first.settled(0, 0), 0);
         RhymedThen y = new RhymedThen();
         Due.words(y, "a");
         Due.law(y, "a>b", 390, 400, 10);
@@ -114,6 +117,8 @@ public final class SoughtAndLandTest {
         due.is(x, "the first of the late ones", x.town(0, 1, 120, 0), 120, 1);
         x.lag(2, 200);
         due.is(x, "late", x.town(0, 1, 200, 0), 350, 2);
+        due.is(x, "bed by 0", x.town(1, 0, 200, 0), 250, 2);
+        due.is(x, "bid", x.town(2, 0, 200, 0), 0, 0);
         due.is(x, "as it is spelt", x.town(0, 1, 200, 2), 0, 0);
         due.is("no word", x.town(4, 0, 0, 0), -1);
         due.is("no history", x.town(0, 2, 0, 0), -1);
