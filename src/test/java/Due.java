@@ -67,6 +67,16 @@ final class Due {
         return row;
     }
 
+    /** Whether row(i) throws what the document says, and no class below it. */
+    static boolean throwsAt(RhymedThen x, int i) {
+        try {
+            x.row(i);
+            return false;
+        } catch (NoSuchElementException none) {
+            return none.getClass() == NoSuchElementException.class;
+        }
+    }
+
     /** Makes THE TEXT this one. */
     static void text(RhymedThen x, String text) {
         x.end(0);

@@ -1,18 +1,10 @@
 /** The edges of promises 20 to 27. */
-final class EdgesOfHistories {
-    private static final int[] WORD = Edge.to(0, 3);
-    private static final int[] LAW = Edge.to(0, 1);
-    private static final int[] HISTORY = Edge.to(0, 1);
-    private static final int[] YEAR = Edge.to(0, 600);
-    private static final int[] PLACE = Edge.to(0, 5);
-    private static final int[] END = Edge.to(0, 1);
-
-    private final Edge edge;
-
+final class EdgesOfHistories extends Edges {
     EdgesOfHistories(Edge edge) {
-        this.edge = edge;
+        super(edge);
     }
 
+    @Override
     void run() {
         fits();
         span();

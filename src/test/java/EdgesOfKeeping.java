@@ -1,13 +1,10 @@
-import java.util.NoSuchElementException;
-
 /** The edges of promises 43 to 47. */
-final class EdgesOfKeeping {
-    private final Edge edge;
-
+final class EdgesOfKeeping extends Edges {
     EdgesOfKeeping(Edge edge) {
-        this.edge = edge;
+        super(edge);
     }
 
+    @Override
     void run() {
         keep();
         again();
@@ -30,7 +27,7 @@ final class EdgesOfKeeping {
         edge.sentence(43, "SIGNS' ON, POETS and TRUST, LAGS, CLASSES are kept under a number 0 .. 2: true. Refused: "
             + "others.");
         edge.limits("keep", Whole::some, (x, v) -> Edge.yes(x.keep(v[0])), new int[] {1}, Edge.to(0, 2));
-        edge.limits("keep", allKeptMade(), (x, v) -> Edge.yes(x.keep(v[0])), new int[] {1}, Edge.to(0, 2));
+        edge.limits("keep", EdgesOfKeeping::allKept, (x, v) -> Edge.yes(x.keep(v[0])), new int[] {1}, Edge.to(0, 2));
         for (int i = 0; i < 3; i++) {
             RhymedThen x = Whole.some();
             edge.is("keep(" + i + ")", x.keep(i), true);
@@ -45,10 +42,6 @@ final class EdgesOfKeeping {
         edge.is("again", empty.again(0), true);
         edge.is("lag 5", empty.lag(5, 0), 0);
         edge.is("class 5", empty.group(5, 0), 0);
-    }
-
-    private static java.util.function.Supplier<RhymedThen> allKeptMade() {
-        return EdgesOfKeeping::allKept;
     }
 
     private void again() {
@@ -75,7 +68,7 @@ final class EdgesOfKeeping {
         edge.is("again(0)", y.again(0), true);
         edge.same("again", y, untouched);
         edge.sentence(44, "Refused: nothing kept.");
-        edge.limits("again", allKeptMade(), (z, v) -> Edge.yes(z.again(v[0])), new int[] {1}, Edge.to(0, 2));
+        edge.limits("again", EdgesOfKeeping::allKept, (z, v) -> Edge.yes(z.again(v[0])), new int[] {1}, Edge.to(0, 2));
         edge.refused("nothing under 0", Whole::some, z -> Edge.yes(z.again(0)));
         edge.refused("nothing under 2", Whole::some, z -> Edge.yes(z.again(2)));
         edge.limits("again, one kept", Whole::some, (z, v) -> Edge.yes(z.again(v[0])), new int[] {1}, Edge.to(1, 1));
@@ -162,22 +155,13 @@ final class EdgesOfKeeping {
         edge.is("no history 32", full.year(5, 32), -1);
     }
 
-    private static boolean throwsAt(RhymedThen x, int i) {
-        try {
-            x.row(i);
-            return false;
-        } catch (NoSuchElementException none) {
-            return none.getClass() == NoSuchElementException.class;
-        }
-    }
-
     private void row() {
         edge.sentence(47, "Number i of the ROW. NoSuchElementException: none such.");
         RhymedThen x = Whole.some();
         edge.is("the first", x.row(0), 1);
         edge.is("the last", x.row(1), 3);
         for (int i : new int[] {2, 3, -1, Integer.MIN_VALUE, Integer.MAX_VALUE}) {
-            edge.is("row(" + i + ") throws", throwsAt(x, i), true);
+            edge.is("row(" + i + ") throws", Due.throwsAt(x, i), true);
         }
         edge.same("row that throws", x, Whole.some());
         // the ROW was longer: what was told ahead of it is not seen
@@ -185,10 +169,10 @@ final class EdgesOfKeeping {
         shorter.said(0, 0, 0, 0);
         shorter.said(0, 1, 200, 0);
         edge.is("row(1)", shorter.row(1), 3);
-        edge.is("row(2) throws", throwsAt(shorter, 2), true);
+        edge.is("row(2) throws", Due.throwsAt(shorter, 2), true);
         RhymedThen empty = Whole.unfit();
         empty.fits();
-        edge.is("row(0) of an empty ROW throws", throwsAt(empty, 0), true);
+        edge.is("row(0) of an empty ROW throws", Due.throwsAt(empty, 0), true);
         // the longest ROW: all others rhyme
         RhymedThen longest = new RhymedThen();
         longest.group(0, 1);
@@ -197,6 +181,6 @@ final class EdgesOfKeeping {
         }
         longest.rhymes(0, 0, 0, 0);
         edge.is("row(18)", longest.row(18), 19);
-        edge.is("row(19) throws", throwsAt(longest, 19), true);
+        edge.is("row(19) throws", Due.throwsAt(longest, 19), true);
     }
 }

@@ -1,16 +1,10 @@
 /** The edges of promises 28 to 32. */
-final class EdgesOfOdds {
-    private static final int[] WORD = Edge.to(0, 3);
-    private static final int[] HISTORY = Edge.to(0, 1);
-    private static final int[] YEAR = Edge.to(0, 600);
-    private static final int[] PLACE = Edge.to(0, 5);
-
-    private final Edge edge;
-
+final class EdgesOfOdds extends Edges {
     EdgesOfOdds(Edge edge) {
-        this.edge = edge;
+        super(edge);
     }
 
+    @Override
     void run() {
         odds();
         oddsOfMany();

@@ -1,17 +1,10 @@
 /** The edges of promises 33 to 36. */
-final class EdgesOfPoets {
-    private static final int[] HISTORY = Edge.to(0, 1);
-    private static final int[] YEAR = Edge.to(0, 600);
-    private static final int[] PLACE = Edge.to(0, 5);
-    private static final int[] POET = Edge.to(0, 5);
-    private static final int[] END = Edge.to(0, 1);
-
-    private final Edge edge;
-
+final class EdgesOfPoets extends Edges {
     EdgesOfPoets(Edge edge) {
-        this.edge = edge;
+        super(edge);
     }
 
+    @Override
     void run() {
         eye();
         lean();

@@ -1,17 +1,10 @@
 /** The edges of promises 9 to 15. */
-final class EdgesOfSaying {
-    private static final int[] WORD = Edge.to(0, 3);
-    private static final int[] LAW = Edge.to(0, 1);
-    private static final int[] HISTORY = Edge.to(0, 1);
-    private static final int[] YEAR = Edge.to(0, 600);
-    private static final int[] PLACE = Edge.to(0, 5);
-
-    private final Edge edge;
-
+final class EdgesOfSaying extends Edges {
     EdgesOfSaying(Edge edge) {
-        this.edge = edge;
+        super(edge);
     }
 
+    @Override
     void run() {
         said();
         changes();

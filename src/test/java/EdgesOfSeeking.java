@@ -1,16 +1,10 @@
 /** The edges of promises 38 to 42; those of 37 stand with mark(). */
-final class EdgesOfSeeking {
-    private static final int[] WORD = Edge.to(0, 3);
-    private static final int[] HISTORY = Edge.to(0, 1);
-    private static final int[] YEAR = Edge.to(0, 600);
-    private static final int[] PLACE = Edge.to(0, 5);
-
-    private final Edge edge;
-
+final class EdgesOfSeeking extends Edges {
     EdgesOfSeeking(Edge edge) {
-        this.edge = edge;
+        super(edge);
     }
 
+    @Override
     void run() {
         look();
         lookRefused();

@@ -1,19 +1,15 @@
 import java.util.function.Supplier;
 
 /** The edges of promises 16 to 19, and of 37, which asks for signs as mark() does. */
-final class EdgesOfSigns {
-    private static final int[] WORD = Edge.to(0, 3);
-    private static final int[] YEAR = Edge.to(0, 600);
-    private static final int[] PLACE = Edge.to(0, 5);
+final class EdgesOfSigns extends Edges {
     // words, year, place and number that fit all kinds
     private static final int[] FINE = {1, 2, 9, 1, 0};
 
-    private final Edge edge;
-
     EdgesOfSigns(Edge edge) {
-        this.edge = edge;
+        super(edge);
     }
 
+    @Override
     void run() {
         mark();
         by();

@@ -1,11 +1,10 @@
 /** The edges that the document's terms name. */
-final class EdgesOfTerms {
-    private final Edge edge;
-
+final class EdgesOfTerms extends Edges {
     EdgesOfTerms(Edge edge) {
-        this.edge = edge;
+        super(edge);
     }
 
+    @Override
     void run() {
         sounds();
         classes();

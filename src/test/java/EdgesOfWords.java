@@ -1,13 +1,10 @@
-import java.util.NoSuchElementException;
-
 /** The edges of promises 1 to 8. */
-final class EdgesOfWords {
-    private final Edge edge;
-
+final class EdgesOfWords extends Edges {
     EdgesOfWords(Edge edge) {
-        this.edge = edge;
+        super(edge);
     }
 
+    @Override
     void run() {
         newObject();
         newObjectIsAsked();
@@ -47,13 +44,7 @@ final class EdgesOfWords {
         }
         edge.is("an empty word", new RhymedThen().word(), -1);
         edge.is("an empty law", new RhymedThen().law(0, 0, 1), -1);
-        boolean thrown = false;
-        try {
-            new RhymedThen().row(0);
-        } catch (NoSuchElementException none0) {
-            thrown = true;
-        }
-        edge.is("row(0) throws", thrown, true);
+        edge.is("row(0) throws", Due.throwsAt(new RhymedThen(), 0), true);
     }
 
     /** What can be asked without anything there. */

@@ -11,15 +11,12 @@ public final class EdgesTest {
         Document document = new Document(path);
         Due due = new Due();
         Edge edge = new Edge(document, due);
-        new EdgesOfTerms(edge).run();
-        new EdgesOfWords(edge).run();
-        new EdgesOfSaying(edge).run();
-        new EdgesOfSigns(edge).run();
-        new EdgesOfHistories(edge).run();
-        new EdgesOfOdds(edge).run();
-        new EdgesOfPoets(edge).run();
-        new EdgesOfSeeking(edge).run();
-        new EdgesOfKeeping(edge).run();
+        Edges[] all = {new EdgesOfTerms(edge), new EdgesOfWords(edge), new EdgesOfSaying(edge), new EdgesOfSigns(edge),
+            new EdgesOfHistories(edge), new EdgesOfOdds(edge), new EdgesOfPoets(edge), new EdgesOfSeeking(edge),
+            new EdgesOfKeeping(edge)};
+        for (Edges edges : all) {
+            edges.run();
+        }
         due.about("all promises");
         for (String words : document.unquoted()) {
             due.is("a test of its own for " + words, false, true);

@@ -1,5 +1,3 @@
-import java.util.NoSuchElementException;
-
 /** Promises 43 to 47. */
 public final class KeptTest {
     private static final Due due = new Due();
@@ -110,26 +108,17 @@ public final class KeptTest {
     private static void row() {
         due.promise(47);
         RhymedThen x = Due.beds();
-        due.is("nothing told", throwsAt(x, 0), true);
+        due.is("nothing told", Due.throwsAt(x, 0), true);
         x.said(0, 0, 0, 0);
         due.is("row(0)", x.row(0), 1);
         due.is("row(2)", x.row(2), 3);
-        due.is("row(3)", throwsAt(x, 3), true);
-        due.is("row(-1)", throwsAt(x, -1), true);
-        due.is("row(greatest)", throwsAt(x, Integer.MAX_VALUE), true);
-        due.is("row(least)", throwsAt(x, Integer.MIN_VALUE), true);
+        due.is("row(3)", Due.throwsAt(x, 3), true);
+        due.is("row(-1)", Due.throwsAt(x, -1), true);
+        due.is("row(greatest)", Due.throwsAt(x, Integer.MAX_VALUE), true);
+        due.is("row(least)", Due.throwsAt(x, Integer.MIN_VALUE), true);
         x.count(0);
         x.said(9, 0, 0, 0);
         x.alike(0, 1, 0, 0, 0);
         due.row(x, "calls that tell none, or are refused, leave it", 1, 0, 3);
-    }
-
-    private static boolean throwsAt(RhymedThen x, int i) {
-        try {
-            x.row(i);
-            return false;
-        } catch (NoSuchElementException none) {
-            return none.getClass() == NoSuchElementException.class;
-        }
     }
 }

@@ -157,5 +157,12 @@ public final class SoughtAndLandTest {
         Due.law(y, "b>c", 30, 30, 1);
         // a: c, but b; b: c, but d; c: d either way
         due.is("all else in order", y.swap(0, 2, 0, 30, 0), 3);
+        // by history 1 the third law has not come yet: a: c, but b; b: c either way
+        RhymedThen z = new RhymedThen();
+        Due.words(z, "a", "b");
+        Due.law(z, "a>b", 10, 10, 1);
+        Due.law(z, "b>c", 20, 20, 1);
+        Due.law(z, "c>d", 25, 100, 75);
+        due.is("a third law that comes later", z.swap(0, 1, 1, 30, 0), 1);
     }
 }
