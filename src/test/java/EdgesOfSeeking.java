@@ -139,6 +139,18 @@ final class EdgesOfSeeking extends Edges {
         all.lag(5, 200);
         edge.tells(all, "all but the first", all.fell(0, 599, 5), 19, (1 << 20) - 2);
         edge.tells(all, "all", all.fell(0, 600, 5), 20, (1 << 20) - 1);
+        RhymedThen full = new RhymedThen();
+        for (int w = 0; w < 20; w++) {
+            Due.word(full, "p");
+        }
+        for (int l = 0; l < 6; l++) {
+            Due.law(full, "a>b", l, 10 - l, Math.max(1, 10 - 2 * l));
+        }
+        for (int h = 0; h < full.count(2); h++) {
+            for (int year = 0; year <= 10; year++) {
+                edge.tells(full, "20 words by " + h + " in " + year, full.fell(h, year, 0), 20, (1 << 20) - 1);
+            }
+        }
         edge.sentence(40, "0: no WORDS (the ROW stays).");
         edge.leaves("no words", () -> {
             RhymedThen none = new RhymedThen();

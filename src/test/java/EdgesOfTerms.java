@@ -246,6 +246,46 @@ final class EdgesOfTerms extends Edges {
         edge.is("125 by 5", Due.law(near, "a>b", 0, 4, 1), -102);
         edge.is("125 by 4", Due.law(near, "a>b", 0, 3, 1), 3);
         edge.is("count(2)", near.count(2), 500);
+        allHistoriesAreWalked();
+    }
+
+    /** All 600 fit; by 360 of them, those in which law 0 comes in 0, 1 or 2, a is said b in year 2. */
+    private void allHistoriesAreWalked() {
+        RhymedThen x = new RhymedThen();
+        x.group(0, Due.bits("ab"));
+        Due.words(x, "a", "b");
+        int[] last = {4, 4, 7, 2};
+        for (int l = 0; l < last.length; l++) {
+            Due.law(x, l == 0 ? "a>b" : "c>d", 0, last[l], 1);
+        }
+        x.mark(3, 0, 0, 2, 0, 1);
+        x.turn(0, false);
+        x.mark(0, 0, 1, 600, 0, 0);
+        edge.tells(x, "fits", x.fits(), 600, 0);
+        edge.tells(x, "next", x.next(), 0, 360);
+        edge.tells(x, "odds", x.odds(0), 0, 3, 5);
+        edge.tells(x, "likely", x.likely(), 0, 1, 600);
+        edge.tells(x, "then", x.then(0, 2, 0), 1, 3, 5, 1);
+        edge.tells(x, "right", x.right(599, 2, 0), 1, 2);
+        edge.tells(x, "sure", x.sure(0, 2, 0), 2, 1, 1);
+        edge.tells(x, "might", x.might(3, 0, 0, 2, 0, 1), 600, 360, 240);
+        edge.tells(x, "look", x.look(2, 0), 360, 0, 1);
+        edge.tells(x, "wrong", x.wrong(), 0, 0, 0);
+        edge.tells(x, "least", x.least(), 1, 1, 0);
+        edge.is("blunder", x.blunder(), 0);
+        edge.is("span", x.span(0, 1), 4);
+        edge.is("order", x.order(0, 3), 0);
+        edge.is("lean", x.lean(0, 0), 1);
+        edge.is("settled", x.settled(0, 0), 10);
+        edge.is("ahead", x.ahead(0, 1), 200);
+        x.mark(3, 0, 0, 0, 0, 15);
+        edge.tells(x, "none fits", x.fits(), 0);
+        edge.is("blunder, none fits", x.blunder(), 4);
+        edge.is("ahead, none fits", x.ahead(0, 0), -2);
+        edge.is("next, none fits", x.next(), -2);
+        edge.is("lean, none fits", x.lean(0, 0), -2);
+        edge.is("least, none fits", x.least(), -2);
+        edge.is("settled, none fits", x.settled(0, 0), -2);
     }
 
     private void places() {

@@ -168,6 +168,9 @@ final class EdgesOfWords extends Edges {
             emptied("abcdefgh".substring(0, p) + "q" + "abcdefgh".substring(p + 1), -1 - p, RhymedThen::word);
             emptied("abcdefgh".substring(0, p) + "#" + "q".repeat(39 - p), -1 - p, RhymedThen::word);
         }
+        for (char c = 0; c < 256; c++) {
+            edge.is("sign " + (int) c, Due.word(new RhymedThen(), "a" + c), c >= 'a' && c <= 'p' ? 0 : -2);
+        }
         emptied("abcdefgha", -9, RhymedThen::word);
         emptied("abcdefghq", -9, RhymedThen::word);
         emptied("abcdefgha" + "a".repeat(31), -9, RhymedThen::word);
@@ -217,10 +220,13 @@ final class EdgesOfWords extends Edges {
         String[] upTo = {"", "a", "a>", "a>b", "a>b/", "a>b/c", "a>b/c_", "a>b/c_d", "a>/", "a>/_", "a>/_d", "a>/c_"};
         String[] can = {"aA", ">", "a/", "/", "aA#_", "_", "aA#", "", "aA#_", "aA#", "", "aA#"};
         for (int i = 0; i < upTo.length; i++) {
-            for (char c : "apqAFG#>/_ ~\u0000\u00FF".toCharArray()) {
-                boolean stands = can[i].indexOf(c) >= 0 || c == 'p' && can[i].indexOf('a') >= 0
-                    || c == 'F' && can[i].indexOf('A') >= 0;
-                if (!stands) {
+            for (char c = 0; c < 256; c++) {
+                boolean stands = can[i].indexOf(c) >= 0 || c >= 'a' && c <= 'p' && can[i].indexOf('a') >= 0
+                    || c >= 'A' && c <= 'F' && can[i].indexOf('A') >= 0;
+                if (stands) {
+                    edge.is("law " + upTo[i] + c + " goes on or ends", lawOf(upTo[i] + c) < -1 - upTo[i].length()
+                        || lawOf(upTo[i] + c) == 0, true);
+                } else {
                     emptied(upTo[i] + c, -1 - upTo[i].length(), y -> y.law(0, 0, 1));
                     emptied(upTo[i] + c + "a>b/c_d", -1 - upTo[i].length(), y -> y.law(0, 0, 1));
                 }
@@ -233,6 +239,10 @@ final class EdgesOfWords extends Edges {
         for (String text : fine) {
             edge.is("law " + text, Due.law(Whole.some(), text, 0, 0, 1), 2);
         }
+    }
+
+    private static int lawOf(String text) {
+        return Due.law(new RhymedThen(), text, 0, 0, 1);
     }
 
     private void yearsAre(int first, int last, int step, long want) {
